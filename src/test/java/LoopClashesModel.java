@@ -43,12 +43,13 @@ public final class LoopClashesModel {
     }
 
     public static void main(String[] args) {
-        for (int number = 0; number < 400; number++) {
+        for (int number = 0; number < 500; number++) {
             int outer = from(-1, 10);
             int inner = from(-1, 10);
             LoopClashesModel model = new LoopClashesModel(number, outer, inner);
             int span = number % 3 == 0 ? 4 : 1;
-            for (int k = 0; k < 12; k++) {
+            // At most 23 calls each time, so that no run goes beyond the 512 calls of the document.
+            for (int k = 0; k < 22; k++) {
                 model.change(span);
                 model.questions();
             }
@@ -156,11 +157,8 @@ public final class LoopClashesModel {
         boolean innerFree = true;
         boolean exchangeable = true;
         for (int r = 0; r < list.size(); r++) {
-            placesOf(r);
             for (int s = 0; s < list.size(); s++) {
-                List<Clash> found = clashes(r, s);
-                pair(r, s, found);
-                for (Clash clash : found) {
+                for (Clash clash : clashes(r, s)) {
                     outerFree &= clash.ti == clash.ui;
                     innerFree &= clash.ti != clash.ui || clash.tj == clash.uj;
                     exchangeable &= !(clash.ti < clash.ui && clash.tj > clash.uj);
@@ -171,19 +169,30 @@ public final class LoopClashesModel {
         due("innerFree()", x.innerFree(), innerFree ? 1 : 0);
         due("exchangeable()", x.exchangeable(), exchangeable ? 1 : 0);
         due("depth()", x.depth(), depth());
+        if (!list.isEmpty()) {
+            int last = list.size() - 1;
+            placesOf(from(0, last));
+            pair(from(0, last), from(0, last));
+            pair(from(0, last), from(0, last));
+        }
     }
 
     private void placesOf(int r) {
         Set<List<Integer>> places = new HashSet<>();
-        for (int turn = 0; turn < m * n; turn++) {
-            List<Integer> place = list.get(r).touches(turn / n, turn % n);
-            places.add(place);
-            due("place(" + r + ", " + turn + ")", x.place(r, turn), 1000 * place.get(0) + place.get(1));
+        for (int i = 0; i < m; i++) {
+            for (int j = 0; j < n; j++) {
+                places.add(list.get(r).touches(i, j));
+            }
         }
         due("footprint(" + r + ")", x.footprint(r), places.size());
+        int i = from(0, m - 1);
+        int j = from(0, n - 1);
+        List<Integer> place = list.get(r).touches(i, j);
+        due("place(" + r + ", " + (n * i + j) + ")", x.place(r, n * i + j), 1000 * place.get(0) + place.get(1));
     }
 
-    private void pair(int r, int s, List<Clash> found) {
+    private void pair(int r, int s) {
+        List<Clash> found = clashes(r, s);
         TreeSet<Integer> spans = new TreeSet<>();
         TreeSet<Integer> starts = new TreeSet<>();
         Set<List<Integer>> gaps = new HashSet<>();

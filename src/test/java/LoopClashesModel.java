@@ -48,7 +48,7 @@ public final class LoopClashesModel {
             int inner = from(-1, 10);
             LoopClashesModel model = new LoopClashesModel(number, outer, inner);
             int span = number % 3 == 0 ? 4 : 1;
-            // At most 23 calls each time, so that no run goes beyond the 512 calls of the document.
+            // At most 20 calls each time, so that no run goes beyond the 512 calls of the document.
             for (int k = 0; k < 22; k++) {
                 model.change(span);
                 model.questions();

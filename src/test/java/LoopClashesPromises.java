@@ -1,7 +1,4 @@
-import java.util.HashSet;
-import java.util.Set;
-
-/** Each promise of the document by hand-made cases: ordinary inputs, named edges and wrong inputs. */
+/** Each promise of the document by hand-made cases; its boundary sentences are in LoopClashesBoundaries. */
 public final class LoopClashesPromises {
     private static final int MIN = Integer.MIN_VALUE;
     private static final int MAX = Integer.MAX_VALUE;
@@ -40,11 +37,11 @@ public final class LoopClashesPromises {
     public static void main(String[] args) {
         newObject();
         refer();
-        referKnowsEveryCode();
         drop();
         mode();
         references();
         place();
+        placeOfEveryCode();
         clashes();
         directions();
         spans();
@@ -55,7 +52,6 @@ public final class LoopClashesPromises {
         exchangeable();
         footprint();
         depth();
-        wrongReferences();
         if (wrong != 0) {
             System.out.println(wrong + " answers are not as due");
             System.exit(1);
@@ -102,46 +98,6 @@ public final class LoopClashesPromises {
         due("promise 2, drop from full", x.drop(5), 5);
         due("promise 2, the end is free again", x.refer(I, J, 1), 5);
         due("promise 2, full again", x.refer(I, J, 1), -3);
-    }
-
-    private static void referKnowsEveryCode() {
-        Set<Integer> good = new HashSet<>();
-        for (int outer = -4; outer <= 4; outer++) {
-            for (int inner = -4; inner <= 4; inner++) {
-                for (int offset = -20; offset <= 20; offset++) {
-                    good.add(code(outer, inner, offset));
-                    seesCode(outer, inner, offset);
-                }
-            }
-        }
-        for (int number = -20000; number <= 70000; number++) {
-            refusesUnlessGood(number, good.contains(number));
-        }
-        int[] far = {MIN, MIN + 1, MAX, MAX - 1, 1 << 16, 1 << 20, 1 << 30, -(1 << 20), MIN + 8724, MIN + 2048};
-        for (int number : far) {
-            refusesUnlessGood(number, false);
-        }
-    }
-
-    private static void refusesUnlessGood(int number, boolean good) {
-        LoopClashes x = new LoopClashes(1, 1);
-        due("promise 2, refer(" + number + ", good)", x.refer(number, ZERO, 0), good ? 0 : -1);
-        LoopClashes y = new LoopClashes(1, 1);
-        due("promise 2, refer(good, " + number + ")", y.refer(ZERO, number, 0), good ? 0 : -2);
-    }
-
-    private static void seesCode(int outer, int inner, int offset) {
-        LoopClashes x = new LoopClashes(3, 5);
-        int known = code(outer, inner, offset);
-        String named = "promise 6, code of " + outer + ", " + inner + ", " + offset;
-        x.refer(known, ZERO, 0);
-        x.refer(ZERO, known, 0);
-        int[] turns = {0, 1, 4, 5, 8, 14};
-        for (int turn : turns) {
-            int seen = outer * (turn / 5) + inner * (turn % 5) + offset;
-            due(named + " as row in turn " + turn, x.place(0, turn), 1000 * seen);
-            due(named + " as column in turn " + turn, x.place(1, turn), seen);
-        }
     }
 
     private static void drop() {
@@ -222,6 +178,30 @@ public final class LoopClashesPromises {
         LoopClashes far = loops(8, 8, code(-4, -4, -20), code(-4, -4, -20), 0, code(4, 4, 20), code(4, 4, 20), 0);
         due("promise 6, least place", far.place(0, 63), -76076);
         due("promise 6, greatest place", far.place(1, 63), 76076);
+    }
+
+    private static void placeOfEveryCode() {
+        for (int outer = -4; outer <= 4; outer++) {
+            for (int inner = -4; inner <= 4; inner++) {
+                for (int offset = -20; offset <= 20; offset++) {
+                    seesCode(outer, inner, offset);
+                }
+            }
+        }
+    }
+
+    private static void seesCode(int outer, int inner, int offset) {
+        LoopClashes x = new LoopClashes(3, 5);
+        int known = code(outer, inner, offset);
+        String named = "promise 6, code of " + outer + ", " + inner + ", " + offset;
+        x.refer(known, ZERO, 0);
+        x.refer(ZERO, known, 0);
+        int[] turns = {0, 1, 4, 5, 8, 14};
+        for (int turn : turns) {
+            int seen = outer * (turn / 5) + inner * (turn % 5) + offset;
+            due(named + " as row in turn " + turn, x.place(0, turn), 1000 * seen);
+            due(named + " as column in turn " + turn, x.place(1, turn), seen);
+        }
     }
 
     private static void clashes() {
@@ -395,32 +375,5 @@ public final class LoopClashesPromises {
         due("promise 17, after a drop", x.depth(), 3);
         x.mode(0, 0);
         due("promise 17, after it reads", x.depth(), 1);
-    }
-
-    private static void wrongReferences() {
-        for (int count = 0; count <= 6; count++) {
-            LoopClashes x = new LoopClashes(2, 2);
-            for (int k = 0; k < count; k++) {
-                x.refer(ZERO, ZERO, 1);
-            }
-            for (int bad : wrongNumbers(count)) {
-                refusesPair(x, bad, bad);
-                if (count > 0) {
-                    refusesPair(x, bad, count - 1);
-                    refusesPair(x, 0, bad);
-                }
-                due("promise 16, footprint(" + bad + ") of " + count, x.footprint(bad), -1);
-            }
-        }
-    }
-
-    private static void refusesPair(LoopClashes x, int r, int s) {
-        String pair = "(" + r + ", " + s + ") of " + x.references();
-        due("promise 7, clashes" + pair, x.clashes(r, s), -1);
-        due("promise 8, directions" + pair, x.directions(r, s), -1);
-        due("promise 9, nearest" + pair, x.nearest(r, s), -1);
-        due("promise 10, farthest" + pair, x.farthest(r, s), -1);
-        due("promise 11, first" + pair, x.first(r, s), -1);
-        due("promise 12, uniform" + pair, x.uniform(r, s), -1);
     }
 }

@@ -52,6 +52,7 @@ public final class LoopClashesPromises {
         exchangeable();
         footprint();
         depth();
+        exampleOfReadme();
         if (wrong != 0) {
             System.out.println(wrong + " answers are not as due");
             System.exit(1);
@@ -219,7 +220,7 @@ public final class LoopClashesPromises {
         due("promise 7, next column is read first", y.clashes(2, 0), 42);
         due("promise 7, never written before", y.clashes(0, 2), 0);
         LoopClashes near = loops(2, 8, I, code(0, 0, 20), 1, ZERO, code(4, 4, -8), 1);
-        // The writer of (i, 20) in the turns 0 .. 7, and (0, 20) again in the turns 7 and 14.
+        // The place (0, 20) is touched by 0 in the turns 0 .. 7, and by 1 in the turns 7 and 14.
         due("promise 7, both row and column count", near.clashes(0, 1), 16);
     }
 
@@ -375,5 +376,18 @@ public final class LoopClashesPromises {
         due("promise 17, after a drop", x.depth(), 3);
         x.mode(0, 0);
         due("promise 17, after it reads", x.depth(), 1);
+    }
+
+    private static void exampleOfReadme() {
+        LoopClashes x = new LoopClashes(6, 8);
+        due("README, the writer", x.refer(10772, 8852, 1), 0);
+        due("README, the reader", x.refer(10771, 8852, 0), 1);
+        due("README, the writer's place is (i, j)", x.place(0, 11), 1003);
+        due("README, the reader's place is (i - 1, j)", x.place(1, 11), 3);
+        due("README, clashes(0, 1)", x.clashes(0, 1), 40);
+        due("README, nearest(0, 1)", x.nearest(0, 1), 8);
+        due("README, outerFree()", x.outerFree(), 0);
+        due("README, innerFree()", x.innerFree(), 1);
+        due("README, depth()", x.depth(), 6);
     }
 }
